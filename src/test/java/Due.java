@@ -21,7 +21,7 @@ final class Due {
         }
     }
 
-    /** All that can be asked of an object's state, in 225 calls: two would nearly use up an object. */
+    /** All that can be asked of an object's state, in 225 of the 512 calls an object has. */
     static String state(RecordLocks x) {
         StringBuilder told = new StringBuilder();
         for (int owner = 0; owner < 5; owner++) {

@@ -69,7 +69,6 @@ public final class RecordLocks {
         }
         int held = BYTES - bytesWith(owner, NONE);
         put(owner, 0, BYTES, NONE);
-        // Before settling, which would otherwise grant the request of the closed owner.
         stopWaiting(owner);
         settle();
         return held;

@@ -1,12 +1,31 @@
+import java.util.function.ToIntFunction;
+
 /** Counts and prints the answers that are not as due. */
 final class Due {
     private int wrong = 0;
+    private int sentences = 0;
+    private String sentence = "";
+
+    /** A sentence of the document, held by a test of its own. */
+    void sentence(String words, Runnable test) {
+        sentences++;
+        sentence = "\"" + words + "\": ";
+        test.run();
+        sentence = "";
+    }
 
     void is(String call, Object want, Object got) {
         if (!want.equals(got)) {
             wrong++;
-            System.out.println(call + " answered " + got + ", due is " + want);
+            System.out.println(sentence + call + " answered " + got + ", due is " + want);
         }
+    }
+
+    /** A refusal or a question: the answer is as due, and nothing is changed by it. */
+    void unchanged(String call, int want, ToIntFunction<RecordLocks> made) {
+        RecordLocks x = Crowd.made();
+        is(call, want, made.applyAsInt(x));
+        is("all that can be told after " + call, Crowd.UNCHANGED, Crowd.told(x));
     }
 
     int count() {
@@ -15,10 +34,19 @@ final class Due {
 
     /** Ends the program with exit code 1 if an answer was wrong. */
     void end() {
-        System.out.println(wrong == 0 ? "all answers are as due" : wrong + " answers are not as due");
+        String held = sentences == 0 ? "" : " (" + sentences + " sentences)";
+        System.out.println((wrong == 0 ? "all answers are as due" : wrong + " answers are not as due") + held);
         if (wrong != 0) {
             System.exit(1);
         }
+    }
+
+    static String call(String name, int... arguments) {
+        StringBuilder told = new StringBuilder(name).append('(');
+        for (int place = 0; place < arguments.length; place++) {
+            told.append(place == 0 ? "" : ", ").append(arguments[place]);
+        }
+        return told.append(')').toString();
     }
 
     /** All that can be asked of an object's state, in 225 of the 512 calls an object has. */

@@ -170,7 +170,8 @@ final class Model {
         return (int) bytes.stream().filter(Map::isEmpty).count();
     }
 
-    private static int fault(int owner, int start, int length, int type, int leastType) {
+    /** -1, -2 or -3, or 0 if the arguments are good. */
+    static int fault(int owner, int start, int length, int type, int leastType) {
         if (owner < 0 || owner > 4) {
             return -1;
         }

@@ -10,7 +10,12 @@ final class Due {
     void sentence(String words, Runnable test) {
         sentences++;
         sentence = "\"" + words + "\": ";
-        test.run();
+        try {
+            test.run();
+        } catch (RuntimeException thrown) {
+            // No call may throw; the other sentences are still to be tried.
+            is("a call", "an answer", thrown);
+        }
         sentence = "";
     }
 

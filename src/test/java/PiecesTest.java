@@ -14,6 +14,7 @@ public final class PiecesTest {
         due.sentence("pieces: locks of the same type", PiecesTest::bordersOfType);
         due.sentence("pieces: from one to forty", PiecesTest::mostPieces);
         due.sentence("pieces: the owner's locks", PiecesTest::ownersApart);
+        due.sentence("pieceStart: counted from the left, 0 for the first", PiecesTest::countedFromTheLeft);
         due.sentence("pieces: -1 if owner is not good", PiecesTest::piecesOfABadOwner);
         refusals("pieceStart", RecordLocks::pieceStart);
         refusals("pieceEnd", RecordLocks::pieceEnd);
@@ -110,6 +111,17 @@ public final class PiecesTest {
         pieces(x, 0, 35, 39, 1);
         pieces(x, 1, 0, 4, 1, 35, 39, 1);
         pieces(x, 2, 0, 4, 1);
+    }
+
+    private static void countedFromTheLeft() {
+        // Locked from the right to the left.
+        RecordLocks x = new RecordLocks();
+        x.lock(4, 39, 1, 1);
+        pieces(x, 4, 39, 39, 1);
+        x.lock(4, 20, 2, 2);
+        pieces(x, 4, 20, 21, 2, 39, 39, 1);
+        x.lock(4, 0, 1, 1);
+        pieces(x, 4, 0, 0, 1, 20, 21, 2, 39, 39, 1);
     }
 
     private static void piecesOfABadOwner() {

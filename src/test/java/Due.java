@@ -1,3 +1,4 @@
+import java.util.Arrays;
 import java.util.function.ToIntFunction;
 
 /** Counts and prints the answers that are not as due. */
@@ -52,6 +53,14 @@ final class Due {
             told.append(place == 0 ? "" : ", ").append(arguments[place]);
         }
         return told.append(')').toString();
+    }
+
+    /** Makes a call that is told by its name. */
+    static int answer(Object asked, String name, int... arguments) throws ReflectiveOperationException {
+        Class<?>[] types = new Class<?>[arguments.length];
+        Arrays.fill(types, int.class);
+        Object[] values = Arrays.stream(arguments).boxed().toArray();
+        return (int) asked.getClass().getDeclaredMethod(name, types).invoke(asked, values);
     }
 
     /** All that can be asked of an object's state, in 225 of the 512 calls an object has. */
